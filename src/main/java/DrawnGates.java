@@ -10,7 +10,9 @@ public final class DrawnGates {
     private static final int SIZE = 8;
     private static final int CELLS = 64;
     private static final int LAYERS = 4;
-    private static final int PLAIN = 0, POLY = 1, METAL = 2, CUT = 3;
+    private static final int DIFFUSION = 0, POLY = 1, METAL = 2, CUT = 3;
+    // Among the layers of wires, plain cells stand in the place of diffusion.
+    private static final int PLAIN = 0;
     private static final int WIRE_LAYERS = 3;
     private static final int NETS = 10;
     private static final int MOST_DEVICES = 6;
@@ -96,8 +98,8 @@ public final class DrawnGates {
             case 3: return readLayout().pieceCount;
             case 4: return plan.deviceCount;
             case 5: return plan.pinCount;
-            case 6: return countShorts();
-            case 7: return countOpens();
+            case 6: return readLayout().countShorts(plan);
+            case 7: return readLayout().countOpens(plan);
             case 8: return search().unlike;
             default: return refuse(BAD);
         }
@@ -112,30 +114,18 @@ public final class DrawnGates {
 
     public int gate(int i, int what) {
         Layout drawn = readLayout();
-        if (!isWithin(i, drawn.gateCount)) {
+        if (!isWithin(i, drawn.gateCount) || !isWithin(what, 6)) {
             return refuse(BAD);
         }
-        switch (what) {
-            case 0: return drawn.gateNode[i];
-            case 1: return drawn.gateA[i];
-            case 2: return drawn.gateB[i];
-            case 3: return Long.bitCount(drawn.gateCells[i]);
-            case 4: return drawn.gateSides[i];
-            case 5: return Long.numberOfTrailingZeros(drawn.gateCells[i]);
-            default: return refuse(BAD);
-        }
+        return drawn.tellGate(i, what);
     }
 
     public int wire(int n, int what) {
         Layout drawn = readLayout();
-        if (!isWithin(n, drawn.nodeCount)) {
+        if (!isWithin(n, drawn.nodeCount) || !isWithin(what, 2)) {
             return refuse(BAD);
         }
-        switch (what) {
-            case 0: return drawn.sizeOf(n);
-            case 1: return drawn.hangOf(n);
-            default: return refuse(BAD);
-        }
+        return what == 0 ? drawn.sizeOf(n) : drawn.hangOf(n);
     }
 
     // ---- matching
@@ -171,7 +161,7 @@ public final class DrawnGates {
         if (!isWithin(i, plan.pinCount) || !isWithin(what, 4)) {
             return refuse(BAD);
         }
-        return what == 3 ? pinNode(i) : plan.ties[3 * i + what];
+        return what == 3 ? readLayout().pinNode(plan, i) : plan.ties[3 * i + what];
     }
 
     public int hangs(int n) {
@@ -237,37 +227,7 @@ public final class DrawnGates {
         for (int l = 0; l < LAYERS; l++) {
             h = 31 * h + plan.layers[l];
         }
-        return digestMatch(digestLayout(h));
-    }
-
-    private long digestLayout(long start) {
-        long h = start;
-        int gates = readLayout().gateCount;
-        for (int i = 0; i < gates; i++) {
-            for (int what = 0; what <= 5; what++) {
-                h = 31 * h + gate(i, what);
-            }
-        }
-        int nodes = readLayout().nodeCount;
-        for (int n = 0; n < nodes; n++) {
-            h = 31 * h + wire(n, 0);
-            h = 31 * h + wire(n, 1);
-        }
-        return h;
-    }
-
-    private long digestMatch(long start) {
-        long h = 31 * start + ways();
-        if (search().found == 0) {
-            return h;
-        }
-        for (int i = 0; i < plan.deviceCount; i++) {
-            h = 31 * h + matched(i);
-        }
-        for (int n = 0; n < NETS; n++) {
-            h = 31 * h + net(n);
-        }
-        return h;
+        return search().mixInto(readLayout().mixInto(h));
     }
 
     /** Ends a call told S: a refusal is counted, else the plan as it was before becomes a state. */
@@ -313,42 +273,11 @@ public final class DrawnGates {
 
     private Matching search() {
         if (!searched) {
-            readLayout();
+            layout.refresh(plan.layers);
             matching.run();
             searched = true;
         }
         return matching;
-    }
-
-    private int pinNode(int i) {
-        return readLayout().nodeWith(METAL, plan.pinBit(i));
-    }
-
-    private int countShorts() {
-        int shorts = 0;
-        for (int i = 0; i < plan.pinCount; i++) {
-            for (int j = 0; j < i; j++) {
-                int here = pinNode(i);
-                if (here != NONE && here == pinNode(j) && plan.pinNet(i) != plan.pinNet(j)) {
-                    shorts++;
-                }
-            }
-        }
-        return shorts;
-    }
-
-    private int countOpens() {
-        int opens = 0;
-        for (int i = 0; i < plan.pinCount; i++) {
-            for (int j = 0; j < i; j++) {
-                int here = pinNode(i);
-                int there = pinNode(j);
-                if (here != NONE && there != NONE && here != there && plan.pinNet(i) == plan.pinNet(j)) {
-                    opens++;
-                }
-            }
-        }
-        return opens;
     }
 
     private static boolean isWithin(int value, int bound) {
@@ -507,11 +436,11 @@ public final class DrawnGates {
         private final int[] pieceNode = new int[MOST_PIECES];
         private final long[][] wires = new long[WIRE_LAYERS][MOST_PIECES];
         private final int[] nodeHang = new int[MOST_PIECES];
-        final long[] gateCells = new long[MOST_GATES];
+        private final long[] gateCells = new long[MOST_GATES];
         final int[] gateNode = new int[MOST_GATES];
         final int[] gateA = new int[MOST_GATES];
         final int[] gateB = new int[MOST_GATES];
-        final int[] gateSides = new int[MOST_GATES];
+        private final int[] gateSides = new int[MOST_GATES];
         int pieceCount = 0;
         int nodeCount = 0;
         int gateCount = 0;
@@ -547,6 +476,63 @@ public final class DrawnGates {
             return NONE;
         }
 
+        int pinNode(Plan plan, int i) {
+            return nodeWith(METAL, plan.pinBit(i));
+        }
+
+        int countShorts(Plan plan) {
+            int shorts = 0;
+            for (int i = 1; i < plan.pinCount; i++) {
+                int here = pinNode(plan, i);
+                for (int j = 0; j < i && here != NONE; j++) {
+                    if (here == pinNode(plan, j) && plan.pinNet(i) != plan.pinNet(j)) {
+                        shorts++;
+                    }
+                }
+            }
+            return shorts;
+        }
+
+        int countOpens(Plan plan) {
+            int opens = 0;
+            for (int i = 1; i < plan.pinCount; i++) {
+                int here = pinNode(plan, i);
+                for (int j = 0; j < i && here != NONE; j++) {
+                    int there = pinNode(plan, j);
+                    if (there != NONE && there != here && plan.pinNet(i) == plan.pinNet(j)) {
+                        opens++;
+                    }
+                }
+            }
+            return opens;
+        }
+
+        int tellGate(int i, int what) {
+            switch (what) {
+                case 0: return gateNode[i];
+                case 1: return gateA[i];
+                case 2: return gateB[i];
+                case 3: return Long.bitCount(gateCells[i]);
+                case 4: return gateSides[i];
+                default: return Long.numberOfTrailingZeros(gateCells[i]);
+            }
+        }
+
+        /** The digest so far, with all gates and nodes. */
+        long mixInto(long start) {
+            long h = start;
+            for (int i = 0; i < gateCount; i++) {
+                for (int what = 0; what <= 5; what++) {
+                    h = 31 * h + tellGate(i, what);
+                }
+            }
+            for (int n = 0; n < nodeCount; n++) {
+                h = 31 * h + sizeOf(n);
+                h = 31 * h + hangOf(n);
+            }
+            return h;
+        }
+
         int sizeOf(int n) {
             int size = 0;
             for (int l = 0; l < WIRE_LAYERS; l++) {
@@ -573,7 +559,7 @@ public final class DrawnGates {
         }
 
         private long cellsOf(int layer) {
-            return layer == PLAIN ? layers[PLAIN] & ~layers[POLY] : layers[layer];
+            return layer == PLAIN ? layers[DIFFUSION] & ~layers[POLY] : layers[layer];
         }
 
         // Pieces come by layer and least cell, so a node's least piece is its least of all.
@@ -645,7 +631,7 @@ public final class DrawnGates {
         private void findGates() {
             gateCount = 0;
             brokenCount = 0;
-            long left = layers[PLAIN] & layers[POLY];
+            long left = layers[DIFFUSION] & layers[POLY];
             for (int k = 0; k < CELLS && left != 0 && gateCount < MOST_GATES; k++) {
                 long cells = hangingTogether(left);
                 gateCells[gateCount] = cells;
@@ -747,6 +733,21 @@ public final class DrawnGates {
             }
         }
 
+        /** The digest so far, with the ways and, if there is a match, the first. */
+        long mixInto(long start) {
+            long h = 31 * start + found;
+            if (found == 0) {
+                return h;
+            }
+            for (int d = 0; d < plan.deviceCount; d++) {
+                h = 31 * h + firstGates[d];
+            }
+            for (int n = 0; n < NETS; n++) {
+                h = 31 * h + firstNodes[n];
+            }
+            return h;
+        }
+
         private void findLikes() {
             for (int d = 0; d < plan.deviceCount; d++) {
                 likes[d] = 0;
@@ -786,7 +787,7 @@ public final class DrawnGates {
 
         private boolean tiePins(int[] nodes) {
             for (int i = 0; i < plan.pinCount; i++) {
-                int node = drawn.nodeWith(METAL, plan.pinBit(i));
+                int node = drawn.pinNode(plan, i);
                 if (node != NONE && !tie(nodes, plan.pinNet(i), node)) {
                     return false;
                 }

@@ -12,6 +12,7 @@ public final class MatchingTest {
         pinsBind();
         pinsAlone();
         manyWays();
+        mostWays();
         ringsAreNotMatched();
         unlike();
         devicesAndPins();
@@ -219,6 +220,32 @@ public final class MatchingTest {
         due.is("six gates", y.count(1), 6);
         due.is("six gates and four devices", y.ways(), 0);
         due.is("all left over, as the middle hangs otherwise", y.count(8), 10);
+    }
+
+    /** Six in parallel, each with a gate of its own: no drawing of six has more ways. */
+    private static void mostWays() {
+        DrawnGates x = new DrawnGates();
+        for (int c = 0; c <= 4; c += 2) {
+            x.draws(0, c, 0, 1, 8);
+        }
+        x.draws(2, 0, 7, 5, 1);
+        x.draws(3, 0, 7, 1, 1);
+        x.draws(3, 4, 7, 1, 1);
+        int[] columns = {1, 1, 1, 3, 3, 3};
+        int[] rows = {0, 2, 4, 1, 3, 5};
+        for (int i = 0; i < 6; i++) {
+            x.draws(0, columns[i], rows[i], 1, 1);
+            x.draws(1, columns[i], rows[i], 1, 1);
+            x.means(9 - i, i % 2, 1 - i % 2);
+        }
+        due.is("gates", x.count(1), 6);
+        due.is("6! and both ways round", x.ways(), 1440);
+        for (int i = 0; i < 6; i++) {
+            due.is("matched", x.matched(i), i);
+            due.is("gate net", x.net(9 - i), 2 + i);
+        }
+        due.is("side 0", x.net(0), 0);
+        due.is("side 1", x.net(1), 1);
     }
 
     /** Six in a ring hang as two rings of three do, but are no match. */
