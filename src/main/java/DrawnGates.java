@@ -914,6 +914,7 @@ public final class DrawnGates {
                     missing = figuresOf(c);
                 } else {
                     orders += missing == 0 ? 1 : 0;
+                    // Behind the last figure 0 are missing, behind the ; it is OUTSIDE again.
                     missing--;
                 }
             }
