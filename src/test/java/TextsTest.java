@@ -179,11 +179,10 @@ public final class TextsTest {
     private static void digests() {
         DrawnGates x = new DrawnGates();
         due.is("of a new one", x.digest(), digestOf(x, 0));
-        x.draws(0, 0, 3, 8, 1);
-        x.draws(1, 2, 1, 1, 5);
-        x.draws(2, 7, 7, 1, 1);
+        x = gateAndCorner();
         long corner = 1L << 63;
         due.is("without a match", x.digest(), digestOf(x, corner));
+        x = gateAndCorner();
         x.means(3, 4, 5);
         x.pins(7, 7, 9);
         x.type(200);
@@ -192,6 +191,14 @@ public final class TextsTest {
         due.is("a match there", x.ways(), 2);
         long once = x.digest();
         due.is("changes nothing", x.digest(), once);
+    }
+
+    private static DrawnGates gateAndCorner() {
+        DrawnGates x = new DrawnGates();
+        x.draws(0, 0, 3, 8, 1);
+        x.draws(1, 2, 1, 1, 5);
+        x.draws(2, 7, 7, 1, 1);
+        return x;
     }
 
     /** The digest put together from getters; the metal's cells are given, as no getter tells bit 63. */
