@@ -120,6 +120,11 @@ public final class RangesTest {
         due.is("wire 95", wires.wire(95, 0), 1);
         due.refused("wire 96", wires, DrawnGates.BAD, () -> wires.wire(96, 0));
         due.refused("wire -1", wires, DrawnGates.BAD, () -> wires.wire(-1, 0));
+        DrawnGates joined = checkered('y', 'd');
+        due.is("as many pieces", joined.count(3), 96);
+        due.is("poly and metal joined", joined.count(0), 64);
+        due.is("wire 63", joined.wire(63, 0), 2);
+        due.refused("wire 64", joined, DrawnGates.BAD, () -> joined.wire(64, 0));
     }
 
     private static DrawnGates checkered(char even, char odd) {
