@@ -26,11 +26,12 @@ public final class DrawnGates {
     private static final long FIRST_COLUMN = 0x0101010101010101L;
     private static final long LAST_COLUMN = 0x8080808080808080L;
 
-    private final Plan plan = new Plan();
+    private final Matching matching = new Matching();
+    // Made by the matching, as a constructor may not hand on parts of what it makes.
+    private final Plan plan = matching.plan;
+    private final Layout layout = matching.drawn;
     private final Plan before = new Plan();
     private final Plan[] states = new Plan[MOST_STATES];
-    private final Layout layout = new Layout();
-    private final Matching matching = new Matching(plan, layout);
     private final Text text = new Text();
     private final int[] refusals = new int[3];
     private int stateCount = 0;
@@ -698,10 +699,10 @@ public final class DrawnGates {
         }
     }
 
-    /** All matches of a plan's devices with a layout's gates, counted, and the first of them. */
+    /** The plan as it stands, what is drawn in it, all matches of its devices with the gates, and the first of them. */
     private static final class Matching {
-        private final Plan plan;
-        private final Layout drawn;
+        final Plan plan = new Plan();
+        final Layout drawn = new Layout();
         // Of each device the gates that are like it, gate i bit i.
         private final int[] likes = new int[MOST_DEVICES];
         private final int[] gateOf = new int[MOST_DEVICES];
@@ -712,11 +713,6 @@ public final class DrawnGates {
         final int[] firstNodes = new int[NETS];
         int found = 0;
         int unlike = 0;
-
-        Matching(Plan plan, Layout drawn) {
-            this.plan = plan;
-            this.drawn = drawn;
-        }
 
         void run() {
             found = 0;

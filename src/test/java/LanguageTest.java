@@ -4,7 +4,9 @@ import java.lang.reflect.Method;
 import java.lang.reflect.Modifier;
 import java.nio.file.Files;
 import java.nio.file.Path;
+import java.util.Map;
 import java.util.Set;
+import java.util.TreeMap;
 import java.util.TreeSet;
 import java.util.regex.Matcher;
 import java.util.regex.Pattern;
@@ -106,7 +108,12 @@ public final class LanguageTest {
         }
         due.is("signs are ASCII", source.chars().allMatch(c -> c < 128) ? 1 : 0, 1);
         madeOnce(code);
-        methodLengths(code);
+        Map<String, String> bodies = methodBodies(code);
+        for (String name : bodies.keySet()) {
+            due.is(name + " is short", bodies.get(name).split("\n").length < 60 ? 1 : 0, 1);
+            int depth = depthOf(name, bodies, new TreeSet<>());
+            due.is(name + " goes eight deep at most, not " + depth, depth <= 8 ? 1 : 0, 1);
+        }
     }
 
     /** One room holds all calls of a run: so only fields and the constructor make objects. */
@@ -115,24 +122,45 @@ public final class LanguageTest {
             if (line.matches(".*\\bnew\\b.*")) {
                 boolean once = line.matches(" *(private )?final .* = new .*") || line.contains("states[i] = new Plan()");
                 due.is("made once: " + line.trim(), once ? 1 : 0, 1);
+                boolean handsNothingOn = line.matches(".* = new \\w+(\\(\\)|(\\[[^\\]]+\\])+);");
+                due.is("hands nothing on: " + line.trim(), handsNothingOn ? 1 : 0, 1);
             }
         }
     }
 
-    /** A method begins with a line that ends in ") {" and ends with a brace of the same indent. */
-    private static void methodLengths(String code) {
+    /** A method begins with a line that ends in ") {" and ends with a brace of the same indent; one name, one body. */
+    private static Map<String, String> methodBodies(String code) {
+        Map<String, String> bodies = new TreeMap<>();
         String[] lines = code.split("\n");
-        Pattern head = Pattern.compile("( *)(?:public |private |static |final )*[\\w\\[\\]]+ \\w+\\([^)]*\\) \\{");
+        Pattern head = Pattern.compile("( *)(?:public |private |static |final )*[\\w\\[\\]]+ (\\w+)\\([^)]*\\) \\{");
         for (int i = 0; i < lines.length; i++) {
             Matcher m = head.matcher(lines[i]);
             if (!m.matches()) {
                 continue;
             }
-            int end = i;
-            for (int k = i; k < lines.length && end == i; k++) {
-                end = lines[k].equals(m.group(1) + "}") ? k : i;
+            StringBuilder body = new StringBuilder();
+            for (int k = i + 1; k < lines.length && !lines[k].equals(m.group(1) + "}"); k++) {
+                body.append(lines[k]).append('\n');
             }
-            due.is(lines[i].trim() + " is short", end - i < 60 ? 1 : 0, 1);
+            bodies.merge(m.group(2), body.toString(), String::concat);
         }
+        return bodies;
+    }
+
+    /** The calls that stand open at once, the library's too, each method once, as recursion is no matter here. */
+    private static int depthOf(String name, Map<String, String> bodies, Set<String> open) {
+        if (!bodies.containsKey(name)) {
+            return 1;
+        }
+        if (!open.add(name)) {
+            return 0;
+        }
+        int deepest = 0;
+        Matcher calls = Pattern.compile("\\b(\\w+)\\(").matcher(bodies.get(name));
+        while (calls.find()) {
+            deepest = Math.max(deepest, depthOf(calls.group(1), bodies, open));
+        }
+        open.remove(name);
+        return deepest + 1;
     }
 }
